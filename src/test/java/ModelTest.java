@@ -6,7 +6,7 @@ import java.util.List;
  * The model follows the document's words (all 0 at first, raised by one until nothing must be).
  */
 public final class ModelTest {
-    private static final int RUNS = 1500;
+    private static final int RUNS = 300;
     private static final int CALLS = 512;
 
     private record Premise(int claim, boolean negated) {

@@ -185,7 +185,7 @@ public final class PromisesTest {
     private static void ruleCapacity() {
         CertaintyChainer x = new CertaintyChainer();
         for (int r = 0; r < 20; r++) {
-            due("4: rule " + r, addRule(x, 12 + r % 4, 5 * r + 1, ~r % 4 == 0 ? 0 : ~0, 12, ~11), r);
+            due("4: rule " + r, addRule(x, 12 + r % 4, 5 * r + 1, ~0, 12, ~11), r);
         }
         due("4: 21st rule", x.rule(0, 50), -4);
         x.premise(3, 0);
@@ -238,6 +238,20 @@ public final class PromisesTest {
         x.premise(1, 0);
         x.remove(0);
         due("5: the draft stays", x.clear(), 1);
+
+        CertaintyChainer y = new CertaintyChainer();
+        y.observe(0, 90);
+        y.observe(1, 30);
+        y.observe(2, 60);
+        y.rule(4, 1);
+        addRule(y, 5, 100, 0, ~1, 2);
+        y.remove(0);
+        due("5: the premises move down", y.yield(0), 60);
+        y.observe(1, 80);
+        due("5: the negation in the middle moves down", y.yield(0), 20);
+        y.observe(1, 0);
+        y.observe(2, 100);
+        due("5: the first premise moves down", y.yield(0), 90);
     }
 
     private static void strengthen() {
@@ -498,6 +512,17 @@ public final class PromisesTest {
         due("14: certainty 1", x.supporter(15), 6);
         x.rule(14, 1);
         due("14: another head with the same certainty", x.supporter(14), 7);
+
+        CertaintyChainer y = new CertaintyChainer();
+        y.observe(3, 40);
+        y.rule(3, 40);
+        y.remove(0);
+        due("14: a rule that was taken out does not support", y.supporter(3), -2);
+        for (int r = 0; r < 20; r++) {
+            y.rule(3, r < 19 ? 39 : 41);
+        }
+        due("14: the last of twenty", y.supporter(3), 19);
+        due("14: none of twenty", y.supporter(4), -2);
     }
 
     private static void yield_() {
